@@ -1215,37 +1215,30 @@ public final class HallRegisters {
         }
     }
 
-    /** Rows of whole numbers and all their sums, kept as steps: rows[c] begins at column c. */
+    /** Rows of whole numbers and all their sums, kept as steps: rows[c] begins at column c, or is all 0. */
     private static final class Lattice {
         static final int MOST_STEPS = 1000;
         int columns = 0;
         final long[][] rows = new long[MOST_GENERATORS][MOST_GENERATORS];
-        final boolean[] present = new boolean[MOST_GENERATORS];
         private long[] spare = new long[MOST_GENERATORS];
 
         void clear(int count) {
             columns = Math.max(0, Math.min(count, MOST_GENERATORS));
             for (int c = 0; c < MOST_GENERATORS; c++) {
-                present[c] = false;
+                Arrays.fill(rows[c], 0);
             }
+        }
+
+        boolean hasStep(int c) {
+            return c >= 0 && c < columns && rows[c][c] != 0;
         }
 
         void insert(long[] given) {
             Arithmetic.copy(given, spare);
-            boolean placed = false;
-            for (int c = 0; c < columns && !placed; c++) {
-                if (spare[c] == 0) {
-                    continue;
-                }
-                placed = !present[c];
-                if (placed) {
-                    swap(c);
-                    present[c] = true;
-                } else {
-                    meet(c);
-                }
+            for (int c = 0; c < columns; c++) {
+                meet(c);
                 if (rows[c][c] < 0) {
-                    subtract(rows[c], rows[c], 2);
+                    negate(rows[c]);
                 }
             }
             tidy();
@@ -1255,32 +1248,26 @@ public final class HallRegisters {
         boolean reduce(long[] row) {
             boolean nothing = true;
             for (int c = 0; c < columns; c++) {
-                if (present[c]) {
-                    takeAway(row, c);
-                }
+                takeStep(row, c);
                 nothing = nothing && row[c] == 0;
             }
             return nothing;
         }
 
-        private void takeAway(long[] row, int c) {
+        private void takeStep(long[] row, int c) {
             if (rows[c][c] != 0) {
                 subtract(row, rows[c], Math.floorDiv(row[c], rows[c][c]));
             }
         }
 
-        /** Euclid's way, by whole rows: rows[c] gets the greatest common divisor, the spare one 0. */
+        /** Euclid's way, by whole rows: in column c rows[c] gets the greatest common divisor, the spare row 0. */
         private void meet(int c) {
             for (int step = 0; step < MOST_STEPS && spare[c] != 0; step++) {
                 subtract(rows[c], spare, Math.floorDiv(rows[c][c], spare[c]));
-                swap(c);
+                long[] row = rows[c];
+                rows[c] = spare;
+                spare = row;
             }
-        }
-
-        private void swap(int c) {
-            long[] row = rows[c];
-            rows[c] = spare;
-            spare = row;
         }
 
         private void subtract(long[] from, long[] row, long times) {
@@ -1289,13 +1276,17 @@ public final class HallRegisters {
             }
         }
 
+        private void negate(long[] row) {
+            for (int c = 0; c < columns; c++) {
+                row[c] = -row[c];
+            }
+        }
+
         /** Keeps the rows' numbers small, so that none outgrows a long. */
         private void tidy() {
             for (int r = columns - 1; r >= 0; r--) {
-                for (int c = r + 1; c < columns && present[r]; c++) {
-                    if (present[c]) {
-                        takeAway(rows[r], c);
-                    }
+                for (int c = r + 1; c < columns; c++) {
+                    takeStep(rows[r], c);
                 }
             }
         }
@@ -1470,7 +1461,7 @@ public final class HallRegisters {
         private void findShifts() {
             shifts.clear(threes);
             for (int c = twos; c < twos + ones && c < MOST_GENERATORS; c++) {
-                if (turns.present[c]) {
+                if (turns.hasStep(c)) {
                     putU(0);
                     for (int i = 0; i < ones && twos + i < MOST_GENERATORS; i++) {
                         setU(i, turns.rows[c][twos + i]);
