@@ -1220,7 +1220,7 @@ public final class HallRegisters {
         static final int MOST_STEPS = 1000;
         int columns = 0;
         final long[][] rows = new long[MOST_GENERATORS][MOST_GENERATORS];
-        private long[] spare = new long[MOST_GENERATORS];
+        private final long[] spare = new long[MOST_GENERATORS];
 
         void clear(int count) {
             columns = Math.max(0, Math.min(count, MOST_GENERATORS));
@@ -1264,9 +1264,15 @@ public final class HallRegisters {
         private void meet(int c) {
             for (int step = 0; step < MOST_STEPS && spare[c] != 0; step++) {
                 subtract(rows[c], spare, Math.floorDiv(rows[c][c], spare[c]));
-                long[] row = rows[c];
-                rows[c] = spare;
-                spare = row;
+                swapWithSpare(rows[c]);
+            }
+        }
+
+        private void swapWithSpare(long[] row) {
+            for (int c = 0; c < columns; c++) {
+                long number = row[c];
+                row[c] = spare[c];
+                spare[c] = number;
             }
         }
 
