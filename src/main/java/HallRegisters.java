@@ -32,7 +32,7 @@ public final class HallRegisters {
     private static final int TOLD_LETTERS = 1;
     private static final int TOLD_ROW = 2;
 
-    // Variables are a 1 .. a 6, then b 1 .. b 6; a table has four binomials (x over 0 .. 3) of each.
+    // Variables are a 1 .. a 6, then b 1 .. b 6; a table has four places for the binomials of each.
     private static final int VARIABLES = 2 * MOST_GENERATORS;
     private static final int TABLE_ROOM = 64;
     private static final int PLACE_MASK = TABLE_ROOM - 1;
@@ -968,16 +968,18 @@ public final class HallRegisters {
             return count;
         }
 
-        /** Puts the binomials of x for a variable into a table. */
+        /**
+         * Puts the binomials of x for a variable into a table: over 0 .. 2, since a term of both rows leaves no more
+         * than that to a variable, and of one row alone there is just a k or b k.
+         */
         static void put(long[] table, int variable, long x) {
             int place = 4 * variable;
-            if (place < 0 || place + 3 >= table.length) {
+            if (place < 0 || place + 2 >= table.length) {
                 return;
             }
             table[place] = 1;
             table[place + 1] = x;
             table[place + 2] = x * (x - 1) / 2;
-            table[place + 3] = x * (x - 1) * (x - 2) / 6;
         }
 
         private boolean areOverlapsAlike() {
@@ -1201,7 +1203,6 @@ public final class HallRegisters {
                 putRoot(k, exponent);
                 square[k] += 2 * exponent;
                 Law.put(cubeTable, k, square[k]);
-                cube[k] += 3 * exponent;
             }
             copy(first, out);
             return true;

@@ -43,7 +43,9 @@ public final class ToldTest {
         toldDue(x, 9, 5, 516);
         toldDue(x, 2, 5, 516);
         toldDue(x, 3, 5, 8);
-        Check.due("look(5)", x.look(5), 526);
+        Check.setRow(x, 4, 1, -1, 0, 0, 0);
+        toldDue(x, 3, 5, 8);
+        Check.due("look(5)", x.look(5), 542);
     }
 
     private static void shortWords() {
@@ -170,8 +172,12 @@ public final class ToldTest {
         Check.due("alike(1, 0)", x.alike(1, 0), -2);
         Check.setRow(x, 1, 30, 20, -30);
         alikeDue(x, 1);
+        Check.setRow(x, 1, 29, 20, -30);
+        alikeDue(x, 0);
         x.kind(3);
         Check.setRow(x, 0, 1, 2, 3, 4, 5, 6);
+        Check.setRow(x, 1, 2, 2, 3, 4, 5, 6);
+        alikeDue(x, 0);
         Check.setRow(x, 1, 1, 2, 3, 4, 5, 6);
         alikeDue(x, 1);
         Check.setRow(x, 1, 1, 2, 3, 4, 5, 7);
