@@ -840,6 +840,9 @@ public final class HallRegisters {
         }
 
         void merge(int key, long number) {
+            if (number == 0) {
+                return;
+            }
             for (int t = 0; t < count; t++) {
                 if (keys[t] == key) {
                     numbers[t] += number;
@@ -1338,14 +1341,8 @@ public final class HallRegisters {
                 int left = sum.keys[t] & LEFT_HALF;
                 int right = sum.keys[t] & RIGHT_HALF;
                 // Both times u stands on the left, so that like terms meet.
-                mergeIfAny(gap, right << 12, sum.numbers[t] * Sum.factors(Sum.placesOf(left), table));
-                mergeIfAny(gap, left, -sum.numbers[t] * Sum.factors(Sum.placesOf(right), table));
-            }
-        }
-
-        private static void mergeIfAny(Sum gap, int key, long number) {
-            if (number != 0) {
-                gap.merge(key, number);
+                gap.merge(right << 12, sum.numbers[t] * Sum.factors(Sum.placesOf(left), table));
+                gap.merge(left, -sum.numbers[t] * Sum.factors(Sum.placesOf(right), table));
             }
         }
 

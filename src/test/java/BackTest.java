@@ -1,7 +1,5 @@
 import java.util.ArrayDeque;
-import java.util.ArrayList;
 import java.util.Deque;
-import java.util.List;
 import java.util.Random;
 
 /** Promises 32 to 34: acts undone, the image, and what look() tells of them. */
@@ -15,59 +13,47 @@ public final class BackTest {
         whatIsNotUndone();
         image();
         for (int seed = 0; seed < 40; seed++) {
-            randomly(new Random(seed));
+            randomly(seed);
         }
         Check.finish("BackTest");
-    }
-
-    /** Whatever an act changes, told as one text. */
-    private static String all(HallRegisters x) {
-        StringBuilder all = new StringBuilder();
-        for (int what = 0; what <= 5; what++) {
-            all.append(x.look(what)).append(' ');
-        }
-        for (int i = 1; i <= x.look(0); i++) {
-            all.append(x.generator(i, 0)).append(x.generator(i, 1)).append(' ').append(x.terms(i)).append(' ');
-            for (int j = i + 1; j <= x.look(0); j++) {
-                for (int k = j + 1; k <= x.look(0); k++) {
-                    all.append(x.tailOf(j, i, k));
-                }
-            }
-        }
-        for (int register = 0; register < 10; register++) {
-            all.append('/').append(Check.row(x, register));
-        }
-        return all.toString();
     }
 
     private static void actDue(HallRegisters x, String before, String call, boolean done) {
         Check.due(call, done, true);
         Check.due("look(6) after " + call, x.look(6), 1);
         Check.due("undo() of " + call, x.undo(), 0);
-        Check.due("all is as ahead of " + call, all(x).equals(before), true);
+        Check.due("all is as ahead of " + call, Check.state(x).equals(before), true);
         Check.due("undo() once more", x.undo(), -1);
     }
 
-    private static void eachAct() {
+    private static HallRegisters withARow() {
         HallRegisters x = new HallRegisters();
         Check.setRow(x, 0, 1, 2, 3);
         x.image(true);
         x.image(false);
-        String before = all(x);
+        return x;
+    }
+
+    private static void eachAct() {
+        HallRegisters x = withARow();
+        String before = Check.state(x);
         Check.due("look(6)", x.look(6), 0);
         actDue(x, before, "set", x.set(1, 1, 7));
         actDue(x, before, "set of what it is", x.set(1, 1, 0));
         actDue(x, before, "multiply", x.multiply(1, 0, 0));
         actDue(x, before, "invert", x.invert(0, 0));
+        x = withARow();
         actDue(x, before, "power", x.power(0, 0, 3));
         actDue(x, before, "commute", x.commute(0, 0, 0));
         actDue(x, before, "conjugate", x.conjugate(9, 0, 0));
         actDue(x, before, "root", x.root(9, 0, 1));
+        x = withARow();
         actDue(x, before, "seek", x.seek(9, 0, 0, 1));
         Check.feed(x, "ab");
         actDue(x, before, "text", x.text(0));
         actDue(x, before, "group", x.group(4, 85));
         actDue(x, before, "tail", x.tail(2, 1, 3, 2));
+        x = withARow();
         actDue(x, before, "tail of what it is", x.tail(2, 1, 3, 1));
         actDue(x, before, "kind", x.kind(2));
         actDue(x, before, "kind of what it is", x.kind(0));
@@ -84,7 +70,7 @@ public final class BackTest {
         x.kind(7);
         x.image(true);
         Check.due("none of these is an act", x.look(6), 0);
-        Check.due("none of these changes registers", all(x).equals(before), true);
+        Check.due("none of these changes registers", Check.state(x).equals(before), true);
     }
 
     private static void eightAtMost() {
@@ -139,7 +125,7 @@ public final class BackTest {
         Check.setRow(x, 3, 1, 2, 3, 4, 5, 6);
         Check.collect(x, "cba");
         int collected = x.collected(6);
-        String before = all(x);
+        String before = Check.state(x);
         Check.due("image(true)", x.image(true), true);
         Check.due("taking it leaves the acts", x.look(6), 7);
         for (int round = 0; round < 3; round++) {
@@ -147,10 +133,11 @@ public final class BackTest {
             x.set(0, 1, 5);
             Check.collect(x, "ba");
             Check.due("image(false)", x.image(false), true);
-            Check.due("all is as in the image", all(x).equals(before), true);
+            Check.due("all is as in the image", Check.state(x).equals(before), true);
             Check.due("collected(6)", x.collected(6), collected);
             Check.due("undo()", x.undo(), -1);
         }
+        x = new HallRegisters();
         x.set(0, 1, 5);
         x.image(true);
         x.set(0, 1, 6);
@@ -165,38 +152,48 @@ public final class BackTest {
         Check.due("set", x.set(0, 1, 1), false);
     }
 
-    private static void randomly(Random random) {
-        HallRegisters x = new HallRegisters();
+    /** Each beginning of a row of random calls, on an object of its own, since looking at all takes many calls too. */
+    private static void randomly(int seed) {
         Deque<String> states = new ArrayDeque<>();
         String taken = null;
-        List<String> calls = new ArrayList<>();
-        for (int call = 0; call < 120 && Check.wrong() < 5; call++) {
-            String before = all(x);
-            int acts = x.look(6);
-            int chosen = random.nextInt(16);
-            calls.add("" + chosen);
+        String before = Check.state(new HallRegisters());
+        for (int calls = 1; calls <= 60 && Check.wrong() < 5; calls++) {
+            HallRegisters x = new HallRegisters();
+            Random random = new Random(seed);
+            int chosen = 0;
+            int answer = 0;
+            for (int call = 0; call < calls; call++) {
+                chosen = random.nextInt(16);
+                answer = chosen < 3 ? x.undo() : chosen < 5 ? bit(x.image(chosen == 3)) : bit(act(x, chosen, random));
+            }
+            String told = seed + ", call " + calls + ": ";
+            String due = before;
             if (chosen < 3) {
-                Check.due("undo() after " + calls, x.undo(), states.size() - 1);
-                Check.due("undone after " + calls, all(x).equals(states.isEmpty() ? before : states.pop()), true);
+                Check.due(told + "undo()", answer, states.size() - 1);
+                due = states.isEmpty() ? before : states.pop();
             } else if (chosen == 3) {
-                x.image(true);
                 taken = before;
             } else if (chosen == 4) {
-                Check.due("image(false)", x.image(false), taken != null);
-                Check.due("gone back after " + calls, all(x).equals(taken == null ? before : taken), true);
+                Check.due(told + "image(false)", answer, taken == null ? 0 : 1);
                 if (taken != null) {
+                    due = taken;
                     states.clear();
                 }
-            } else if (act(x, chosen, random)) {
+            } else if (answer == 1) {
                 states.push(before);
                 while (states.size() > 8) {
                     states.removeLast();
                 }
-            } else {
-                Check.due("refused, so unchanged", all(x).equals(before) && x.look(6) == acts, true);
+                due = Check.state(x);
             }
-            Check.due("look(6) after " + calls, x.look(6), states.size());
+            Check.due(told + "look(6)", x.look(6), states.size());
+            before = Check.state(x);
+            Check.due(told + "all", before, due);
         }
+    }
+
+    private static int bit(boolean holds) {
+        return holds ? 1 : 0;
     }
 
     private static boolean act(HallRegisters x, int chosen, Random random) {

@@ -22,9 +22,7 @@ public final class RandomTest {
         for (int group = 0; group < groups && Check.wrong() < 20; group++) {
             random = new Random(seed * 1000003L + group);
             oracle = Oracle.random(random);
-            x = new HallRegisters();
-            over = 0;
-            oracle.tell(x);
+            begin();
             checkGroup();
             checkCollecting();
             if (oracle.consistent()) {
@@ -32,13 +30,22 @@ public final class RandomTest {
                 oracle.findTerms();
                 checkTerms();
                 for (int round = 0; round < 4; round++) {
+                    begin();
                     checkElements(new int[] {2, 9, 40, 999}[round]);
                 }
+                begin();
                 checkBalls();
             }
         }
         System.out.println(consistent + " of " + groups + " groups were consistent");
         Check.finish("RandomTest");
+    }
+
+    /** A new object for each round, since nothing is promised of one behind its 512th call. */
+    private static void begin() {
+        x = new HallRegisters();
+        over = 0;
+        oracle.tell(x);
     }
 
     private static void checkGroup() {

@@ -30,18 +30,16 @@ public final class RandomTextTest {
                 continue;
             }
             oracle.findTerms();
-            HallRegisters x = new HallRegisters();
-            oracle.tell(x);
             BigInteger[][] registers = new BigInteger[10][];
             for (int register = 0; register < 10; register++) {
                 registers[register] = oracle.one();
                 for (int i = 1; register < 3 && i <= oracle.n; i++) {
-                    int v = random.nextInt(2 * 30 + 1) - 30;
-                    registers[register][i] = BigInteger.valueOf(v);
-                    Check.due("set", x.set(register, i, v), true);
+                    registers[register][i] = BigInteger.valueOf(random.nextInt(2 * 30 + 1) - 30);
                 }
             }
+            HallRegisters x = null;
             for (int round = 0; round < 60; round++) {
+                x = round % 6 == 0 ? made(oracle, registers) : x;
                 faults[check(x, oracle, registers, round % 3 == 0 ? soup(random) : word(random, 0, round % 3 == 1))]++;
             }
         }
@@ -51,6 +49,19 @@ public final class RandomTextTest {
         }
         System.out.println(seen);
         Check.finish("RandomTextTest");
+    }
+
+    private static HallRegisters made(Oracle oracle, BigInteger[][] registers) {
+        HallRegisters x = new HallRegisters();
+        oracle.tell(x);
+        for (int register = 0; register < 10; register++) {
+            for (int i = 1; i <= oracle.n; i++) {
+                if (registers[register][i].signum() != 0) {
+                    Check.due("set", x.set(register, i, registers[register][i].intValueExact()), true);
+                }
+            }
+        }
+        return x;
     }
 
     private static int check(HallRegisters x, Oracle oracle, BigInteger[][] registers, String text) {

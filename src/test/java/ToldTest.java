@@ -190,6 +190,9 @@ public final class ToldTest {
         Check.setRow(x, 0, 1, 0, 0, 0, 0);
         // Conjugating by letters b alone moves c, and that moves e by just one number; d is free by c.
         for (int c = -4; c <= 4; c++) {
+            x = new HallRegisters();
+            x.kind(1);
+            Check.setRow(x, 0, 1, 0, 0, 0, 0);
             int found = 0;
             for (int e = -20; e <= 20; e++) {
                 Check.setRow(x, 1, 1, 0, c, 5, e);
