@@ -634,6 +634,20 @@ public final class ElementBoundsTest {
         }
     }
 
+    /** Promise 28: "Of the POLYNOMIAL of k". */
+    static void shapesOfTheLatestGroup() {
+        HallRegisters x = Check.ofKind(1);
+        Check.due("kind", x.kind(0), true);
+        for (int what = 0; what <= 3; what++) {
+            Check.due("shape(1, " + what + ")", x.shape(1, what), new int[] {1, 1, 0, 2}[what]);
+            Check.due("shape(3, " + what + ")", x.shape(3, what), new int[] {2, 2, 0, 3}[what]);
+        }
+        Check.due("group", x.group(5, Check.weights("11111")), true);
+        for (int what = 0; what <= 3; what++) {
+            Check.due("shape(5, " + what + ")", x.shape(5, what), new int[] {1, 1, 0, 2}[what]);
+        }
+    }
+
     /** Promise 28: "0 the greatest degree of a TERM (all d and e together)". */
     static void greatestDegrees() {
         HallRegisters x = Check.ofKind(1);

@@ -40,6 +40,7 @@ public final class LanguageTest {
         face();
         classes(code);
         methodLengths(code);
+        CallDepth.check();
         Check.finish("LanguageTest");
     }
 

@@ -156,6 +156,11 @@ public final class ToldBoundsTest {
             y[y.length - 1] = -1;
             soughtDue(x, 3, "none", a, y);
         }
+        x = Check.ofKind(1);
+        Check.setRow(x, 0, 1, 0, 0, 0, 0);
+        Check.due("alike", x.alike(0, 0), 1);
+        Check.due("kind", x.kind(0), true);
+        soughtDue(x, 3, "-3 0 0", row(1, 0, 0), row(1, 0, 0));
     }
 
     /** Term 3: "(by EXPONENT 1, then 2 .., the lesser ones first)". */
@@ -199,6 +204,14 @@ public final class ToldBoundsTest {
         x = Check.of("1123", "213:1", "314:3");
         alikeDue(x, 1, row(1, 0, 0, 0), row(1, 0, 0, 30));
         alikeDue(x, 0, row(1, 0, 0, 0), row(1, 0, 0, 29));
+        // without a WEIGHT of 2: twice 6 u 1 - 3 u 2
+        x = Check.of("113", "213:2");
+        alikeDue(x, 1, row(3, 6, 0), row(3, 6, 18));
+        alikeDue(x, 0, row(3, 6, 0), row(3, 6, 21));
+        alikeDue(x, 1, row(6, 3, 0), row(6, 3, 6));
+        alikeDue(x, 0, row(6, 3, 0), row(6, 3, 3));
+        alikeDue(x, 1, row(1, 0, 0), row(1, 0, -30));
+        alikeDue(x, 0, row(1, 0, 0), row(1, 0, -29));
     }
 
     /** Term 3: "makes y the CONJUGATE of a by u". By weights: what u must be for one moves the next ones. */
@@ -226,6 +239,26 @@ public final class ToldBoundsTest {
         alikeDue(x, 1, row(2, 2, 0, 0, 0), row(2, 2, 2, -1, 0));
         alikeDue(x, 0, row(2, 2, 0, 0, 0), row(2, 2, 2, 0, 0));
         alikeDue(x, 0, row(2, 2, 0, 0, 0), row(2, 2, 1, 0, 1));
+        // a a a b b leaves itself, c moves three letters d and two e
+        int[] a = row(3, 2, 0, 0, 0);
+        for (int u = 0; u < 9; u++) {
+            x = Check.ofKind(1);
+            Check.setRow(x, 0, a);
+            Check.setRow(x, 1, u / 3 - 1, u % 3 - 1, 0, 0, 0);
+            Check.due("conjugate", x.conjugate(2, 0, 1), true);
+            int[] y = new int[5];
+            for (int i = 0; i < 5; i++) {
+                y[i] = x.exponent(2, i + 1);
+            }
+            alikeDue(x, 1, a, y);
+            y[4]++;
+            alikeDue(x, 0, a, y);
+            y[3] -= 3;
+            y[4] -= 3;
+            alikeDue(x, 1, a, y);
+            y[3] += 2;
+            alikeDue(x, 0, a, y);
+        }
     }
 
     /** Term 3: "(without bounds, any many, ONE too)". */
@@ -270,6 +303,12 @@ public final class ToldBoundsTest {
             Check.due("ball(" + l + ") of one GENERATOR", Check.of("133").ball(l), 2 * l + 1);
             Check.due("ball(" + l + ") of two GENERATORS", Check.of("112").ball(l), 2 * l * l + 2 * l + 1);
         }
+        x = Check.of("123");
+        Check.due("ball(4) of 123", x.ball(4), 9);
+        Check.due("group", x.group(3, Check.weights("223")), true);
+        Check.due("ball(4) of 223, next", x.ball(4), 1);
+        Check.due("undo()", x.undo(), 1);
+        Check.due("ball(4) of 123, once more", x.ball(4), 9);
     }
 
     /** Term 3: "how many (not told if more than 1000)". An odd number each: all but ONE go in pairs with their inverses. */
@@ -393,6 +432,11 @@ public final class ToldBoundsTest {
         Check.due("of the others", x.register(5, 5), 510);
         Check.setRow(x, 8, 1, 2, -3);
         Check.due("of another", x.register(8, 5), 256);
+        Check.setRow(x, 7, 0, 2, 3);
+        Check.setRow(x, 6, 1, 0, 3);
+        Check.due("of one with another first EXPONENT", x.register(7, 5), 128);
+        Check.due("of one with another second EXPONENT", x.register(6, 5), 64);
+        Check.due("of the first and the last", x.register(9, 5), 513);
     }
 
     /** Promise 25: "6 whether it is MADE (1, 0)". */
@@ -408,6 +452,9 @@ public final class ToldBoundsTest {
         toldDue(x, 6, 0, 0, 0, 1);
         toldDue(x, 6, 1, 0, 0, 2);
         toldDue(x, 7, 2, 0, 0, 1);
+        x = Check.ofKind(1);
+        toldDue(x, 6, 0, 2, 0, 0, 0, 0);
+        toldDue(x, 6, 1, 0, 0, 7, 0, 0);
     }
 
     /** Promise 25: "7 the least m (1 .. 99) of which its POWER (without bounds) is MADE (0: none)". */
