@@ -1,7 +1,10 @@
 import java.io.IOException;
+import java.lang.reflect.Method;
+import java.lang.reflect.Modifier;
 import java.nio.file.Files;
 import java.nio.file.Path;
 import java.util.ArrayList;
+import java.util.Collections;
 import java.util.HashMap;
 import java.util.List;
 import java.util.Map;
@@ -45,7 +48,31 @@ public final class DocTest {
             Check.due(place + " has a test", tests.containsKey(place), true);
         }
         Check.due("34 promises and 4 terms", places.keySet().stream().filter(place -> place.matches("(Promise|Term) \\d+")).count(), 38);
+        face(Files.readString(doc));
         Check.finish("DocTest");
+    }
+
+    /** The class has the methods of the public face, no other ones. */
+    private static void face(String text) {
+        List<String> due = new ArrayList<>();
+        Matcher matcher = Pattern.compile("\n    public ((?:boolean|int|long) \\w+)\\(([^)]*)\\);").matcher(text);
+        while (matcher.find()) {
+            due.add(matcher.group(1) + "(" + matcher.group(2).replaceAll(" \\w+(,|$)", "$1").replace(" ", "") + ")");
+        }
+        List<String> has = new ArrayList<>();
+        for (Method method : HallRegisters.class.getDeclaredMethods()) {
+            if (Modifier.isPublic(method.getModifiers())) {
+                StringBuilder types = new StringBuilder();
+                for (Class<?> type : method.getParameterTypes()) {
+                    types.append(types.length() > 0 ? "," : "").append(type);
+                }
+                has.add(method.getReturnType() + " " + method.getName() + "(" + types + ")");
+            }
+        }
+        Collections.sort(due);
+        Collections.sort(has);
+        Check.due("methods of the public face", due.size(), 33);
+        Check.due("the public face", has.toString(), due.toString());
     }
 
     private static List<Path> files() throws IOException {
